@@ -28,6 +28,7 @@ public final class PromisesTest {
         test.callTurns();
         test.callRefusals();
         test.callIdleHatch();
+        test.callFullDock();
         test.callPay();
         test.look();
         test.tons();
@@ -221,6 +222,9 @@ public final class PromisesTest {
         faultIs(0, "4");
         faultIs(0, "gangs 4");
         faultIs(0, "gan");
+        faultIs(0, "wang 4");
+        faultIs(0, "gangz 4");
+        faultIs(0, "ganga 4");
         faultIs(0, "Gang 4");
         faultIs(0, "gaNg 4");
         faultIs(0, "firstwaiting");
@@ -414,6 +418,46 @@ public final class PromisesTest {
         check.is("one idle", 1, other.count(7));
         other.call(0, 0);
         check.is("idle of the latest call", 1, other.count(7));
+    }
+
+    /** As many of all as there may be: 24 men make three gangs of eight, for the ships with the most tons. */
+    private void callFullDock() {
+        DockCall dock = new DockCall();
+        for (int card = 0; card < 24; card++) {
+            dock.man(1);
+        }
+        Texts.agree(dock, "gang 8;first tons;rate 0 1");
+        for (int ship = 0; ship < 10; ship++) {
+            dock.ship();
+            for (int hatch = 0; hatch < 4; hatch++) {
+                dock.hatch(ship, 100 + 10 * ship, 0, false);
+            }
+        }
+        check.is("tons", 4 * (1000 + 450), dock.count(4));
+        check.is("three gangs", 3, dock.call(0, 0));
+        check.is("idle are all others", 37, dock.count(7));
+        for (int card = 0; card < 24; card++) {
+            check.is("ship of card " + card, 9, dock.look(card, 4));
+            check.is("hatch of card " + card, card / 8, dock.look(card, 5));
+        }
+        for (int ship = 0; ship < 10; ship++) {
+            check.is("ship " + ship + " waited", 1, dock.state(ship, 3));
+        }
+        check.is("all unwilling", 0, dock.call(0, -1));
+        check.is("all idle", 40, dock.count(7));
+        dock.call(0, 0);
+        dock.call(0, 0);
+        Texts.agree(dock, "gang 5;cranes 4");
+        // turns are all 1: five and five by cards, then the rest
+        check.is("four gangs", 4, dock.call(0, 0));
+        check.is("no hatch wants for men", 0, dock.count(7));
+        check.is("four men are left", 4, dock.look(20, 1) + dock.look(21, 1) + dock.look(22, 1) + dock.look(23, 1));
+        Texts.agree(dock, "gang 6;cranes 1");
+        dock.call(0, 0);
+        int[] cards = {20, 21, 22, 23, 0, 1};
+        for (int i = 0; i < cards.length; i++) {
+            check.is("man " + i + " of the gang", cards[i], dock.entry(dock.count(3) - 6 + i, 1));
+        }
     }
 
     private void payIs(int due, String text, int tons, boolean dry, int rain) {
