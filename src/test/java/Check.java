@@ -6,6 +6,7 @@ final class Check {
     }
 
     private final String about;
+    private String sentence = "";
     private int made;
     private int wrong;
 
@@ -13,11 +14,16 @@ final class Check {
         this.about = about;
     }
 
+    /** The document's sentence that the checks behind it hold to, so that a failure names it. */
+    void sentence(String words) {
+        sentence = "'" + words + "': ";
+    }
+
     void same(String what, Object due, Object got) {
         made++;
         if (!due.equals(got)) {
             wrong++;
-            System.out.println(about + ": " + what + " answered " + got + ", due is " + due);
+            System.out.println(about + ": " + sentence + what + " answered " + got + ", due is " + due);
         }
     }
 

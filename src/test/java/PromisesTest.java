@@ -1,12 +1,10 @@
-import java.util.NoSuchElementException;
-
 /** The document's promises one by one: ordinary inputs, edges and wrong inputs, with answers reckoned by hand. */
 public final class PromisesTest {
-    private static final Class<IllegalArgumentException> ILLEGAL = IllegalArgumentException.class;
-    private static final Class<IndexOutOfBoundsException> OUTSIDE = IndexOutOfBoundsException.class;
-    private static final Class<UnsupportedOperationException> TOO_MANY = UnsupportedOperationException.class;
-    private static final Class<NoSuchElementException> NO_SUCH = NoSuchElementException.class;
-    private static final int[] FIRST_AGREEMENT = {4, 12, 2, 10, 50, 2, 0, 10, 10, 10, 10};
+    private static final Class<? extends RuntimeException> ILLEGAL = Docks.ILLEGAL;
+    private static final Class<? extends RuntimeException> OUTSIDE = Docks.OUTSIDE;
+    private static final Class<? extends RuntimeException> TOO_MANY = Docks.TOO_MANY;
+    private static final Class<? extends RuntimeException> NO_SUCH = Docks.NO_SUCH;
+    private static final int[] FIRST_AGREEMENT = Docks.FIRST_AGREEMENT;
 
     private final Check check = new Check("promises");
 
@@ -43,17 +41,6 @@ public final class PromisesTest {
         test.plan();
         test.count();
         test.check.end();
-    }
-
-    /** So many men with skill 0, and a ship. */
-    private static DockCall dockWith(int men, String text) {
-        DockCall dock = new DockCall();
-        for (int i = 0; i < men; i++) {
-            dock.man(1);
-        }
-        Texts.agree(dock, text);
-        dock.ship();
-        return dock;
     }
 
     private void agreementIs(String when, DockCall dock, int... due) {
@@ -281,7 +268,7 @@ public final class PromisesTest {
     }
 
     private void callAnswers() {
-        DockCall dock = dockWith(5, "gang 2;rate 0 3");
+        DockCall dock = Docks.with(5, "gang 2;rate 0 3");
         check.throwsIt("call(-1, 0)", ILLEGAL, () -> dock.call(-1, 0));
         check.throwsIt("call(16, 0)", ILLEGAL, () -> dock.call(16, 0));
         check.is("a call that threw was none", 0, dock.count(2));
@@ -302,7 +289,7 @@ public final class PromisesTest {
         int[][] dueShip = {{0, 3}, {2, 3}, {0, 3}};
         String[] orders = {"waiting", "tons", "number"};
         for (int first = 0; first < 3; first++) {
-            DockCall dock = dockWith(1, "gang 1;rate 0 500;first " + orders[first]);
+            DockCall dock = Docks.with(1, "gang 1;rate 0 500;first " + orders[first]);
             dock.hatch(0, 10, 0, false);
             dock.ship();
             dock.ship();
@@ -317,7 +304,7 @@ public final class PromisesTest {
             dock.call(0, 0);
             check.is("all done, first " + orders[first], 0, dock.count(4));
         }
-        DockCall dock = dockWith(1, "gang 1;rate 0 15;first tons");
+        DockCall dock = Docks.with(1, "gang 1;rate 0 15;first tons");
         dock.hatch(0, 30, 0, false);
         dock.ship();
         dock.hatch(1, 30, 0, false);
@@ -330,7 +317,7 @@ public final class PromisesTest {
     }
 
     private void callCranes() {
-        DockCall dock = dockWith(6, "gang 2;cranes 2");
+        DockCall dock = Docks.with(6, "gang 2;cranes 2");
         dock.hatch(0, 900, 1, false);
         dock.hatch(0, 900, 0, false);
         dock.hatch(0, 0, 0, false);
@@ -346,7 +333,7 @@ public final class PromisesTest {
     }
 
     private void callTurns() {
-        DockCall dock = dockWith(3, "gang 1");
+        DockCall dock = Docks.with(3, "gang 1");
         dock.hatch(0, 2000, 0, false);
         int[] due = {0, 1, 2, 0, 1};
         for (int call = 0; call < due.length; call++) {
@@ -363,7 +350,7 @@ public final class PromisesTest {
     }
 
     private void callRefusals() {
-        DockCall dock = dockWith(4, "gang 2;bar 1");
+        DockCall dock = Docks.with(4, "gang 2;bar 1");
         dock.hatch(0, 2000, 0, false);
         check.is("1 refuses, 3 is not asked", 1, dock.call(0, 2 | 8));
         check.is("refused", 1, dock.look(1, 3));
@@ -461,7 +448,7 @@ public final class PromisesTest {
     }
 
     private void payIs(int due, String text, int tons, boolean dry, int rain) {
-        DockCall dock = dockWith(1, text);
+        DockCall dock = Docks.with(1, text);
         dock.hatch(0, tons, 0, dry);
         dock.call(rain, 0);
         check.is("pay by '" + text + "' for " + tons + (dry ? " dry" : "") + ", rain " + rain, due, dock.entry(0, 2));
@@ -488,7 +475,7 @@ public final class PromisesTest {
     }
 
     private void look() {
-        DockCall dock = dockWith(1, "gang 1");
+        DockCall dock = Docks.with(1, "gang 1");
         dock.man(6);
         check.throwsIt("look(-1, 0)", OUTSIDE, () -> dock.look(-1, 0));
         check.throwsIt("look(2, 9)", OUTSIDE, () -> dock.look(2, 9));
@@ -513,7 +500,7 @@ public final class PromisesTest {
     }
 
     private void tons() {
-        DockCall dock = dockWith(1, "gang 1;rate 0 7");
+        DockCall dock = Docks.with(1, "gang 1;rate 0 7");
         dock.hatch(0, 30, 0, false);
         check.throwsIt("tons(-1, 0)", OUTSIDE, () -> dock.tons(-1, 0));
         check.throwsIt("tons(1, 0)", OUTSIDE, () -> dock.tons(1, 0));
@@ -527,7 +514,7 @@ public final class PromisesTest {
     }
 
     private void state() {
-        DockCall dock = dockWith(1, "gang 1");
+        DockCall dock = Docks.with(1, "gang 1");
         check.throwsIt("state(1, 9)", OUTSIDE, () -> dock.state(1, 9));
         check.throwsIt("state(-1, 0)", OUTSIDE, () -> dock.state(-1, 0));
         check.throwsIt("state(0, 4)", NO_SUCH, () -> dock.state(0, 4));
@@ -576,7 +563,7 @@ public final class PromisesTest {
         check.throwsIt("entry(-1, 0)", OUTSIDE, () -> dock.entry(-1, 0));
         check.throwsIt("entry(0, 4)", NO_SUCH, () -> dock.entry(0, 4));
         check.throwsIt("entry(0, -1)", NO_SUCH, () -> dock.entry(0, -1));
-        DockCall gang = dockWith(3, "gang 2");
+        DockCall gang = Docks.with(3, "gang 2");
         gang.hatch(0, 2000, 0, false);
         gang.call(0, 1);
         gang.call(0, 0);
@@ -590,7 +577,7 @@ public final class PromisesTest {
     }
 
     private void entriesFull() {
-        DockCall dock = dockWith(24, "gang 8;rate 0 1;cranes 3");
+        DockCall dock = Docks.with(24, "gang 8;rate 0 1;cranes 3");
         for (int hatch = 0; hatch < 3; hatch++) {
             dock.hatch(0, 2000, 0, false);
         }
@@ -608,7 +595,7 @@ public final class PromisesTest {
     }
 
     private void rule() {
-        DockCall dock = dockWith(1, "gang 1");
+        DockCall dock = Docks.with(1, "gang 1");
         dock.hatch(0, 2000, 0, false);
         check.throwsIt("rule(0, -1) without entries", OUTSIDE, () -> dock.rule(0, -1));
         dock.call(0, 0);
@@ -627,7 +614,7 @@ public final class PromisesTest {
     }
 
     private void ruleFull() {
-        DockCall dock = dockWith(1, "gang 1");
+        DockCall dock = Docks.with(1, "gang 1");
         dock.hatch(0, 2000, 0, false);
         dock.call(0, 0);
         dock.call(0, 0);
@@ -643,7 +630,7 @@ public final class PromisesTest {
     }
 
     private void earned() {
-        DockCall dock = dockWith(2, "gang 1");
+        DockCall dock = Docks.with(2, "gang 1");
         dock.hatch(0, 2000, 0, false);
         dock.call(0, 0);
         dock.call(0, 0);
@@ -719,7 +706,7 @@ public final class PromisesTest {
     }
 
     private void count() {
-        DockCall dock = dockWith(3, "gang 2");
+        DockCall dock = Docks.with(3, "gang 2");
         dock.hatch(0, 45, 0, false);
         dock.hatch(0, 30, 2, false);
         dock.call(0, 0);
