@@ -604,6 +604,5 @@ public final class CallEdgesTest {
         }
         check.is("gangs", 4 * 478, gangs);
         check.is("the 512th: all pay", 4000 * gangs, dock.count(9));
-        check.is("one more does no harm", 800, dock.count(3));
     }
 }
